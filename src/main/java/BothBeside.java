@@ -739,30 +739,20 @@ public final class BothBeside {
         }
 
         /**
-         * Of two rows of weights that are lawful and nowhere above the row's, the heavier weight at each place makes
-         * a third one: so there is a heaviest one, and taking off only what each has too much comes to it.
+         * One pass is enough: a stone that has too much keeps what both beside it weigh, so it is still no lighter
+         * than either of them, and they stay lawful. What is taken off must be, as no weight ever rises.
          */
         boolean knockOff() {
             int n = quay.standing;
             for (int p = 0; p < n; p++) lay(lighter, p, quay.weightOf(at(quay.places, p)));
-            boolean changed = true;
-            for (int pass = 0; changed && pass <= MOST_STONES * HEAVIEST; pass++) changed = knockOffOnce(n);
+            for (int p = 0; p < n; p++) {
+                int most = lighterBeside(p, n, -1) + lighterBeside(p, n, 1);
+                lay(lighter, p, Math.min(at(lighter, p), most));
+            }
             for (int p = 0; p < n; p++) {
                 if (at(lighter, p) < 1) return false;
             }
             return true;
-        }
-
-        private boolean knockOffOnce(int n) {
-            boolean changed = false;
-            for (int p = 0; p < n; p++) {
-                int most = lighterBeside(p, n, -1) + lighterBeside(p, n, 1);
-                if (at(lighter, p) > most) {
-                    lay(lighter, p, most);
-                    changed = true;
-                }
-            }
-            return changed;
         }
 
         private int lighterBeside(int place, int n, int step) {
@@ -1251,8 +1241,7 @@ public final class BothBeside {
         int refusesPair(int shelf, int other) {
             if (!has(shelf) || !has(other)) return BAD;
             if (isEmpty(shelf) || isEmpty(other)) return NOTHING_THERE;
-            if (holdsBody(shelf) || holdsBody(other)) return OTHER_KIND;
-            return at(held, shelf) == at(held, other) ? 0 : OTHER_KIND;
+            return at(held, shelf) >= 0 && at(held, shelf) == at(held, other) ? 0 : OTHER_KIND;
         }
 
         long valueAt(int shelf, int i) {

@@ -145,6 +145,11 @@ public final class Promises {
         bytes(y, 5, 0, 1, 255);
         due("stones from 0", y.stones(5, 0, 3), 0);
         due("stones from 1, then -1", y.stones(5, 1, 2), 1);
+        y.row(0, 0, 60);
+        y.put(0, 59, 3);
+        bytes(y, 1, 4);
+        due("to the end of the longest row", y.stones(0, 59, 2), 1);
+        due("count(0)", y.count(0), 2);
     }
 
     private static void mend() {
@@ -473,12 +478,13 @@ public final class Promises {
         due("1 9 9 1 50 1", z.ounces(-1), 48);
         for (int p = 0; p < 6; p++) due("ounces(" + p + ")", z.ounces(p), then[p]);
         BothBeside chain = standing(99, 60, 3, 2, 1);
-        int[] behind = {5, 5, 3, 2, 1};
-        // 2 is no more than 3 + 1, 3 no more than what stays; the two on the left come down to one another
-        due("99 60 3 2 1", chain.ounces(-1) > 0 ? 1 : 0, 1);
-        due("of them both, alike", chain.ounces(0) - chain.ounces(1), 0);
-        due("60 may stay, as 60 <= 60 + 3", chain.ounces(1), 60);
-        due("2 behind 3", chain.ounces(3), behind[3]);
+        int[] behind = {60, 60, 3, 2, 1};
+        due("99 60 3 2 1", chain.ounces(-1), 39);
+        for (int p = 0; p < 5; p++) due("ounces(" + p + ")", chain.ounces(p), behind[p]);
+        BothBeside chipped = standing(1, 50, 2, 50, 60);
+        int[] left = {1, 3, 2, 50, 50};
+        due("1 50 2 50 60", chipped.ounces(-1), 57);
+        for (int p = 0; p < 5; p++) due("ounces(" + p + ")", chipped.ounces(p), left[p]);
         BothBeside one = standing(9);
         due("ounces(-1) of one", one.ounces(-1), NOT);
         due("ounces(0) of one", one.ounces(0), NOT);
@@ -779,6 +785,16 @@ public final class Promises {
         for (int left = 39; left >= 0; left--) due("redo()", y.redo(), left);
         due("of(0, 0)", y.of(0, 0), 41);
         due("redo()", y.redo(), STATE);
+        BothBeside z = brought(1, 1, 1);
+        for (int i = 0; i < 43; i++) z.mend(i % 3, 0, i + 2);
+        for (int i = 42; i >= 3; i--) {
+            due("undo()", z.undo(), i - 3);
+            due("of(" + i % 3 + ", 0)", z.of(i % 3, 0), i - 3 + 2);
+        }
+        for (int i = 3; i < 43; i++) {
+            due("redo()", z.redo(), 42 - i);
+            due("of(" + i % 3 + ", 0)", z.of(i % 3, 0), i + 2);
+        }
     }
 
     private static void redo() {
