@@ -661,6 +661,8 @@ public final class BothBeside {
 
         int change(int number, int v) {
             int was = number == RING ? quay.ring : quay.weightOf(number);
+            // no number has changed: nothing is there to be undone, and what was undone may still be done again
+            if (v == was) return was;
             if (done == MOST) forgetFirst();
             lay(numbers, done, number);
             lay(before, done, was);

@@ -243,6 +243,7 @@ final class Model {
     }
 
     private int changed(int which, int was, int v) {
+        if (was == v) return v;
         done.add(new int[] {which, was, v});
         if (done.size() > 40) done.remove(0);
         undone.clear();

@@ -162,13 +162,15 @@ public final class Promises {
         due("broken() behind it", x.broken(), 0);
         due("mend(0, 1, 1)", x.mend(0, 1, 1), 0);
         due("broken() in the ring", x.broken(), NOT);
-        due("mend(0, 1, 1)", x.mend(0, 1, 1), 1);
-        due("count(3)", x.count(3), 5);
+        due("mend(0, 1, 1), no change", x.mend(0, 1, 1), 1);
+        due("mend(1, 0, 1), no change", x.mend(1, 0, 1), 1);
+        due("count(3)", x.count(3), 4);
         int[][] wrong = {{3, 0, 5}, {-1, 0, 5}, {0, 0, 0}, {0, 0, 100}, {0, 0, -4}, {1, 1, 1}, {-1, 1, 1}, {0, 1, 2},
             {0, 1, -1}, {0, 2, 1}, {0, -1, 1}, {MAX, 0, 5}, {MIN, 0, 5}, {0, MAX, 1}, {0, 0, MAX}, {0, 0, MIN}};
         for (int[] a : wrong) due("mend(" + a[0] + ", " + a[1] + ", " + a[2] + ")", x.mend(a[0], a[1], a[2]), BAD);
-        due("count(3)", x.count(3), 5);
+        due("count(3)", x.count(3), 4);
         due("mend(0, 1, 0) without a stone", new BothBeside().mend(0, 1, 0), 0);
+        due("mend(0, 1, 1) without a stone", new BothBeside().mend(0, 1, 1), 0);
         due("of(0, 22)", x.of(0, 22), 3);
     }
 
@@ -795,6 +797,29 @@ public final class Promises {
             due("redo()", z.redo(), 42 - i);
             due("of(" + i % 3 + ", 0)", z.of(i % 3, 0), i + 2);
         }
+        undoWithoutChange();
+    }
+
+    private static void undoWithoutChange() {
+        BothBeside x = brought(4, 7);
+        due("mend(0, 0, 4)", x.mend(0, 0, 4), 4);
+        due("mend(0, 1, 0)", x.mend(0, 1, 0), 0);
+        due("count(3), no number has changed", x.count(3), 0);
+        due("undo(), no number has changed", x.undo(), STATE);
+        x.mend(1, 0, 9);
+        x.mend(1, 0, 9);
+        x.mend(0, 1, 1);
+        x.mend(0, 1, 1);
+        due("undo(), two numbers have changed", x.undo(), 1);
+        due("of(0, 20)", x.of(0, 20), 0);
+        due("undo()", x.undo(), 0);
+        due("of(1, 0)", x.of(1, 0), 7);
+        due("undo()", x.undo(), STATE);
+        BothBeside full = brought(1);
+        for (int w = 2; w <= 41; w++) full.mend(0, 0, w);
+        full.mend(0, 0, 41);
+        for (int left = 39; left >= 0; left--) due("undo(), none was pushed out", full.undo(), left);
+        due("of(0, 0)", full.of(0, 0), 1);
     }
 
     private static void redo() {
@@ -824,6 +849,10 @@ public final class Promises {
         due("redo(), another came behind", x.redo(), STATE);
         due("undo()", x.undo(), 1);
         due("of(0, 0)", x.of(0, 0), 9);
+        x.mend(0, 0, 9);
+        x.mend(0, 1, 0);
+        due("redo(), what changes nothing does not come behind", x.redo(), 0);
+        due("of(0, 0)", x.of(0, 0), 5);
     }
 
     private static void body() {
