@@ -1,8 +1,5 @@
 /** Each promise by runs worked out by hand: ordinary inputs, the edges, wrong inputs. */
-public final class Promises {
-    private static final int BAD = -1, NOT = -2, FULL = -3, STATE = -5, VOID = -2000000000;
-    private static final int MIN = Integer.MIN_VALUE, MAX = Integer.MAX_VALUE;
-
+public final class Promises extends Quays {
     private static String promise = "";
 
     private Promises() {
@@ -10,33 +7,6 @@ public final class Promises {
 
     private static void due(String call, long got, long want) {
         Checks.due(promise + ": " + call, got, want);
-    }
-
-    /** Stones of these weights, all in the row in their order. */
-    private static BothBeside standing(int... weights) {
-        BothBeside x = brought(weights);
-        for (int s = 0; s < weights.length; s++) x.set(s, s);
-        return x;
-    }
-
-    private static BothBeside brought(int... weights) {
-        BothBeside x = new BothBeside();
-        for (int w : weights) x.stone(w);
-        return x;
-    }
-
-    private static void bytes(BothBeside x, int shelf, int... values) {
-        x.row(shelf, 0, values.length);
-        for (int i = 0; i < values.length; i++) x.put(shelf, i, values[i]);
-    }
-
-    private static void feed(BothBeside x, String text) {
-        for (int i = 0; i < text.length(); i++) x.feed(text.charAt(i));
-    }
-
-    private static int law(BothBeside x, String text) {
-        feed(x, text);
-        return x.law();
     }
 
     public static void main(String[] args) {

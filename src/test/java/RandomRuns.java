@@ -98,7 +98,13 @@ public final class RandomRuns {
 
     /** RING becomes what it became in x. */
     private int lastBit() {
-        return x.of(0, 20);
+        return asked(x.of(0, 20));
+    }
+
+    /** A call of x whose answer is not compared counts among its calls, too. */
+    private int asked(int answer) {
+        calls++;
+        return answer;
     }
 
     private void thought() {
@@ -136,7 +142,7 @@ public final class RandomRuns {
             case 3: due("aside(" + set + ")", x.aside(set), m.aside(set)); break;
             case 4: due("makeUp(" + (a & 1) + ")", x.makeUp(a & 1), m.makeUp(a & 1)); break;
             default: {
-                if (x.count(1) > 6 && upTo(4) != 0) return;
+                if (asked(x.count(1)) > 6 && upTo(4) != 0) return;
                 int s = upTo(6);
                 due("book(" + s + ", " + a + ")", x.book(s, a), m.book(s, a));
             }
@@ -183,10 +189,10 @@ public final class RandomRuns {
     /** A row of bytes by which fewest() and book() have something to answer. */
     private void told() {
         int s = upTo(6);
-        int n = x.count(1);
+        int n = asked(x.count(1));
         due("row(" + s + ", 0, " + n + ")", x.row(s, 0, n), m.row(s, 0, n));
         int[] row = new int[n];
-        for (int p = 0; p < n; p++) row[p] = x.of(p, 10);
+        for (int p = 0; p < n; p++) row[p] = asked(x.of(p, 10));
         for (int p = n - 1; p > 0; p--) {
             int q = upTo(p + 1);
             int kept = row[p];

