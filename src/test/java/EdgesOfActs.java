@@ -10,6 +10,7 @@ public final class EdgesOfActs extends Edges {
         bodies();
         kinds();
         noSuchAct();
+        ofNoKind();
         theLatest();
         theNumber();
         wraps();
@@ -18,7 +19,10 @@ public final class EdgesOfActs extends Edges {
         setsOfAll();
         sellsOfAll();
         traces();
+        ownAndAbove();
+        fromTheKindAbove();
         traceEnds();
+        allAreKept();
         keep();
         taken();
         underAKind();
@@ -77,6 +81,23 @@ public final class EdgesOfActs extends Edges {
         }
         BothBeside bare = new BothBeside();
         due("no body, act(0, 0, 5)", bare.act(0, STANDS, 5), 0);
+    }
+
+    private static void ofNoKind() {
+        says("0, and no TRACE then: no such BODY, ACT.");
+        BothBeside x = ofEachKind();
+        for (int b = 0; b < 8; b++) {
+            for (int act : new int[] {-1, 4, -2, 5, 8, MIN, MAX}) {
+                due("act(" + b + ", " + act + ", 9)", x.act(b, act, 9), 0);
+                due("act(" + b + ", " + act + ", 9), count(5)", x.count(5), 0);
+            }
+        }
+        for (int b : new int[] {-1, 8, 49, 50, MIN, MAX}) {
+            for (int act = 0; act < 4; act++) {
+                due("act(" + b + ", " + act + ", 9)", x.act(b, act, 9), 0);
+                due("act(" + b + ", " + act + ", 9), count(5)", x.count(5), 0);
+            }
+        }
     }
 
     private static void theLatest() {
@@ -184,6 +205,51 @@ public final class EdgesOfActs extends Edges {
         due(call + "count(5)", x.count(5), numbers.length);
         for (int i = 0; i < numbers.length; i++) due(call + "trace(" + i + ")", x.trace(i), numbers[i]);
         due(call + "trace(" + numbers.length + ")", x.trace(numbers.length), BAD);
+    }
+
+    /** Which body of an act each kind has, or the next kind above. */
+    private static void ownAndAbove() {
+        says("stands(..) and so on: the body of its own KIND, or of the next KIND above that has one");
+        int[][] first = {{1, 10, 11, 2}, {20, 10, 11, 2}, {1, 30, 11, 2}, {1, 41, 40, 2}, {20, 10, 11, 50}, {1, 41, 60, 61},
+            {70, 10, 11, 2}, {81, 80, 11, 2}};
+        BothBeside x = ofEachKind();
+        for (int k = 0; k < 8; k++) {
+            for (int a = 0; a < 4; a++) {
+                x.act(k, a, 1);
+                due("act(" + k + ", " + a + ", 1), trace(0)", x.trace(0), first[k][a]);
+            }
+        }
+    }
+
+    private static void fromTheKindAbove() {
+        says("super: from the KIND above the body's on.");
+        BothBeside x = ofEachKind();
+        due("LIGHT above ENDS is no super of itself, act(4, 0, 1)", x.act(ENDS, STANDS, 1), 1 + 4 + 3);
+        due("count(5)", x.count(5), 2);
+        due("HOLDING above HEAVY, act(5, 1, 1)", x.act(HEAVY, HOLDS, 1), -(2 + 5) * 2);
+        due("count(5)", x.count(5), 4);
+        due("trace(1), HELD above the body's KIND, not the body's own act again", x.trace(1), 30);
+        due("STONE above HELD, over HOLDING, act(5, 2, 1)", x.act(HEAVY, SETS, 1), (1 ^ 5) * 3 - 7);
+        due("trace(1)", x.trace(1), 40);
+        due("trace(2)", x.trace(2), 11);
+        due("SELLS of STONE above HEAVY, act(5, 3, 0)", x.act(HEAVY, SELLS, 0), -12 - 5 + 1);
+        due("trace(1)", x.trace(1), 2);
+        due("CHIPPED above SOLD, act(7, 0, 1)", x.act(SOLD, STANDS, 1), 8 * 2 - 1);
+        due("trace(1)", x.trace(1), 70);
+    }
+
+    private static void allAreKept() {
+        says("the first 24 are kept.");
+        BothBeside x = ofEachKind();
+        for (int k = 0; k < 8; k++) {
+            for (int a = 0; a < 4; a++) {
+                x.act(k, a, 3);
+                int ran = x.count(5);
+                due("act(" + k + ", " + a + ", 3), as many as that are kept", ran <= 24 ? 0 : 1, 0);
+                due("act(" + k + ", " + a + ", 3), the last that ran is kept", x.trace(ran - 1) > 0 ? 1 : 0, 1);
+                due("act(" + k + ", " + a + ", 3), trace(24)", x.trace(24), BAD);
+            }
+        }
     }
 
     private static void traceEnds() {

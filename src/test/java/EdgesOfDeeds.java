@@ -256,6 +256,17 @@ public final class EdgesOfDeeds extends Edges {
         due("count(3)", x.count(3), 40);
         for (int left = 39; left >= 0; left--) due("undo()", x.undo(), left);
         due("of(0, 0), the first of those kept was the seventh", x.of(0, 0), 6);
+        BothBeside several = brought(90, 91, 92);
+        for (int i = 0; i < 43; i++) several.mend(i % 3, 0, i + 1);
+        for (int i = 42; i >= 3; i--) {
+            due("undo() of change " + i, several.undo(), i - 3);
+            due("of(" + i % 3 + ", 0)", several.of(i % 3, 0), i - 2);
+        }
+        due("undo() of change 2", several.undo(), STATE);
+        for (int i = 3; i < 43; i++) {
+            due("redo() of change " + i, several.redo(), 42 - i);
+            due("of(" + i % 3 + ", 0)", several.of(i % 3, 0), i + 1);
+        }
     }
 
     private static void doneAgain() {

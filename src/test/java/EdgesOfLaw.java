@@ -21,6 +21,7 @@ public final class EdgesOfLaw extends Edges {
         numbers();
         blanks();
         names();
+        weightsBeside();
         sixOpen();
         closedAgain();
         wrapping();
@@ -79,6 +80,13 @@ public final class EdgesOfLaw extends Edges {
         due("law() of 59 less 59", law(x, "59" + "-1".repeat(59)), 1);
         due("59 less 59", x.of(0, 2), 0);
         due("feed(49), there is room again", x.feed(49), 1);
+        x.law();
+        due("law() of 120 bytes, each a number or a sign", law(x, "!0" + "+1".repeat(59)), 1);
+        due("1 and 59", x.of(0, 2), 1);
+        due("law() of 120 bytes, each a number or a sign", law(x, "!1" + "*1".repeat(59)), 1);
+        due("0 times 1", x.of(0, 2), 0);
+        due("law() of 120 bytes in two lines", law(x, "!1?1;" + "1" + "-1".repeat(57)), 1);
+        due("the second line, 1 less 57", x.of(0, 2), 1);
     }
 
     private static void read() {
@@ -218,6 +226,30 @@ public final class EdgesOfLaw extends Edges {
         due("only these names", read("W"), -100);
     }
 
+    private static void weightsBeside() {
+        says("NAMES: w WEIGHT, l, r WEIGHTS of the neighbours on the left, on the right (0: none), k the PLACE, n how many stand there, s the stone's number.");
+        BothBeside x = brought(99, 1, 50);
+        x.set(2, 0);
+        x.set(0, 1);
+        x.set(1, 2);
+        law(x, "w=50&l=0&r=99&k=0&s=2|w=99&l=50&r=1&k=1&s=0|w=1&l=99&r=0&k=2&s=1");
+        due("50 99 1", x.of(0, 21), 1);
+        x.mend(2, 0, 51);
+        due("51 99 1", x.of(0, 21), 0);
+        due("the one of 51", x.of(2, 2), 0);
+        due("the one beside it", x.of(0, 2), 0);
+        due("the one that is not", x.of(1, 2), 1);
+        x.undo();
+        x.mend(0, 1, 1);
+        due("50 99 1 in a ring, the first", x.of(2, 2), 0);
+        due("50 99 1 in a ring, the one between", x.of(0, 2), 1);
+        due("50 99 1 in a ring, the last", x.of(1, 2), 0);
+        law(x, "n=3");
+        due("n=3", x.of(0, 21), 1);
+        x.take(0);
+        due("n=2", x.of(0, 21), 0);
+    }
+
     private static void sixOpen() {
         says("At most 6 of ( ! - ahead of an O are open at once.");
         String signs = "(!-";
@@ -251,6 +283,14 @@ public final class EdgesOfLaw extends Edges {
         due("closed ahead of ?", read("((((((w))))))?((((((w))))))"), 1);
         due("closed ahead of ;", read("------w;------w"), 1);
         due("a seventh behind ;", read("------w;-------w"), -114);
+        due("a seventh behind ?", read("w?(((((((w)))))))"), -108);
+        due("a sixth behind ?", read("w?((((((w))))))"), 1);
+        due("a seventh ahead of ?", read("!!!!!!!w?w"), -106);
+        for (int i = 0; i < BEHIND.length(); i++) {
+            String sign = BEHIND.substring(i, i + 1);
+            due("six behind " + sign, read("((((((w))))))" + sign + "!-!-!(w)"), 1);
+            due("seven behind " + sign, read("((((((w))))))" + sign + "!-!-!-(w)"), -120);
+        }
     }
 
     private static void wrapping() {

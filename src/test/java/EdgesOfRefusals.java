@@ -18,6 +18,7 @@ public final class EdgesOfRefusals extends Edges {
     }
 
     public static void main(String[] args) {
+        severalRefusals();
         says(NOTHING);
         bare();
         full();
@@ -69,6 +70,43 @@ public final class EdgesOfRefusals extends Edges {
 
     private static void see(List<Long> seen, long... answers) {
         for (long a : answers) seen.add(a);
+    }
+
+    /** Calls that could be refused for two reasons: the one that their own sentence names first is answered. */
+    private static void severalRefusals() {
+        says("Answers, of several the one named first: BAD (-1): no such number, or it is not as said; NOT (-2): as told; FULL (-3); STATE (-5): as told; -11 to -14.");
+        BothBeside full = filled();
+        due("stone(0): BAD, FULL", full.stone(0), BAD);
+        due("feed(256): BAD, FULL", full.feed(256), BAD);
+        due("body(8): BAD, FULL", full.body(8), BAD);
+        due("set(0, 9): BAD, STATE", full.set(0, 9), BAD);
+        due("stones(1, 0, 9): BAD, -12", full.stones(1, 0, 9), BAD);
+        due("fewest(6): BAD, STATE", full.fewest(6), BAD);
+        due("fewest(5): -11, STATE", full.fewest(5), NOTHING_THERE);
+        due("fewest(1): -12, STATE", full.fewest(1), OTHER_KIND);
+        due("fewest(4): -12, STATE", full.fewest(4), OTHER_KIND);
+        due("book(5, 8): BAD, -11", full.book(5, 8), BAD);
+        due("book(1, 8): BAD, -12", full.book(1, 8), BAD);
+        due("row(6, 0, -1): BAD, -14", full.row(6, BYTES, -1), BAD);
+        due("row(0, 5, -1): BAD, -14", full.row(0, 5, -1), BAD);
+        due("put(6, -1, 0): BAD, -13", full.put(6, -1, 0), BAD);
+        due("put(5, -1, 0): -11, -13", full.put(5, -1, 0), NOTHING_THERE);
+        due("put(4, -1, 0): -12, -13", full.put(4, -1, 0), OTHER_KIND);
+        due("shift(6, 0, 5, 0, 1): BAD, -11", full.shift(6, 0, 5, 0, 1), BAD);
+        due("shift(5, 0, 6, 0, 1): BAD, -11", full.shift(5, 0, 6, 0, 1), BAD);
+        due("shift(5, 0, 4, 0, -1): -11, -12, -13", full.shift(5, 0, 4, 0, -1), NOTHING_THERE);
+        due("shift(4, 0, 5, 0, -1): -11, -12, -13", full.shift(4, 0, 5, 0, -1), NOTHING_THERE);
+        due("shift(0, 0, 1, 0, -1): -12, -13", full.shift(0, 0, 1, 0, -1), OTHER_KIND);
+        due("taken(5, 8): BAD, -11", full.taken(5, 8), BAD);
+        due("taken(0, 8): BAD, -12", full.taken(0, 8), BAD);
+        BothBeside none = under("0", 2);
+        none.row(1, SHORTS, 1);
+        due("rows(3, 2): BAD, NOT", none.rows(3, 2), BAD);
+        due("book(0, -1): -11, NOT", none.book(0, 0), NOTHING_THERE);
+        due("book(1, -1): -12, NOT", none.book(1, 0), OTHER_KIND);
+        due("makeUp(2): BAD, NOT", none.makeUp(2), BAD);
+        due("soldOn(-2): BAD, NOT", none.soldOn(-2), BAD);
+        due("ounces(1) of one: BAD, NOT", standing(9).ounces(1), BAD);
     }
 
     private static void bare() {

@@ -18,7 +18,10 @@ public final class EdgesOfShelves extends Edges {
         asTheyWere();
         shiftPlaces();
         shiftRefused();
+        hostsRefusals();
+        shelvesApart();
         stonesFromARow();
+        fromThisRowAlone();
         whereItEnds();
         stonesRefused();
         counted();
@@ -294,6 +297,65 @@ public final class EdgesOfShelves extends Edges {
         rowIs("1 2", x, 3, 1, 2);
     }
 
+    private static void hostsRefusals() {
+        says("The host's REFUSALS: -11 nothing is there where something is wanted; -12 it is of another kind; -13 a place that is not there; -14 a size below 0.");
+        BothBeside x = standing(1, 1);
+        x.body(0);
+        x.keep(1, 0);
+        x.row(2, INTS, 2);
+        due("-11 of put", x.put(0, 0, 1), -11);
+        due("-11 of shift", x.shift(0, 0, 2, 0, 1), -11);
+        due("-11 of taken", x.taken(0, 0), -11);
+        due("-11 of fewest", x.fewest(0), -11);
+        due("-11 of book", x.book(0, -1), -11);
+        due("-12 of put", x.put(1, 0, 1), -12);
+        due("-12 of shift", x.shift(1, 0, 2, 0, 1), -12);
+        due("-12 of taken", x.taken(2, 0), -12);
+        due("-12 of taken, a body of another kind", x.taken(1, 7), -12);
+        due("-12 of fewest", x.fewest(2), -12);
+        due("-12 of book", x.book(2, -1), -12);
+        due("-12 of stones", x.stones(2, 0, 1), -12);
+        due("-13 of put, ahead", x.put(2, -1, 1), -13);
+        due("-13 of put, behind", x.put(2, 2, 1), -13);
+        due("-13 of shift", x.shift(2, 0, 2, 1, 2), -13);
+        due("-14 of row", x.row(3, INTS, -1), -14);
+        due("no size below 0: 0", x.row(3, INTS, 0), 1);
+    }
+
+    private static void shelvesApart() {
+        says("SHELVES 0 .. 5 each hold nothing (at first), a BODY, or a ROW");
+        BothBeside x = new BothBeside();
+        for (int s = 0; s < 6; s++) {
+            x.row(s, LONGS, 60);
+            x.put(s, 0, 100 + s);
+            x.put(s, 59, 200 + s);
+        }
+        for (int s = 0; s < 6; s += 2) {
+            due("anew, row(" + s + ", 3, 60)", x.row(s, LONGS, 60), 1);
+            due("no place, put(" + s + ", -1, 7)", x.put(s, -1, 7), NO_PLACE);
+            due("no place, put(" + s + ", 60, 7)", x.put(s, 60, 7), NO_PLACE);
+            due("all of it, shift(" + s + ", 0, " + s + ", 0, 60)", x.shift(s, 0, s, 0, 60), 60);
+            due("anew, element(" + s + ", 0)", x.element(s, 0), 0);
+            due("anew, element(" + s + ", 59)", x.element(s, 59), 0);
+        }
+        for (int s = 1; s < 6; s += 2) {
+            due("as it was, element(" + s + ", 0)", x.element(s, 0), 100 + s);
+            due("as it was, element(" + s + ", 59)", x.element(s, 59), 200 + s);
+            due("no place, element(" + s + ", -1)", x.element(s, -1), Long.MIN_VALUE);
+            due("no place, element(" + s + ", 60)", x.element(s, 60), Long.MIN_VALUE);
+        }
+        x.row(3, LONGS, 2);
+        due("behind a shorter one, put(3, 2, 7)", x.put(3, 2, 7), NO_PLACE);
+        due("behind a shorter one, element(3, 59)", x.element(3, 59), Long.MIN_VALUE);
+        x.body(0);
+        x.keep(3, 0);
+        x.keep(5, -1);
+        due("another holds a BODY, element(1, 0)", x.element(1, 0), 101);
+        due("another holds a BODY, element(4, 0)", x.element(4, 0), 0);
+        due("another holds nothing, taken(3, 0)", x.taken(3, 0), 0);
+        due("nothing, taken(5, 0)", x.taken(5, 0), NOTHING_THERE);
+    }
+
     private static void stonesFromARow() {
         says("STONES FROM A ROW on a SHELF, from place i on, n (1 .. 8) of them: how many came (0 with i below 0).");
         BothBeside x = new BothBeside();
@@ -314,6 +376,30 @@ public final class EdgesOfShelves extends Edges {
         bytes(some, 0, 11, 12, 13, 14, 15, 16, 17, 18, 19);
         due("stones(0, 3, 4)", some.stones(0, 3, 4), 4);
         for (int s = 0; s < 4; s++) due("of(" + s + ", 0)", some.of(s, 0), 14 + s);
+    }
+
+    private static void fromThisRowAlone() {
+        says("STONES FROM A ROW of bytes, from place i on: WEIGHTS: n of them");
+        BothBeside x = new BothBeside();
+        for (int s = 0; s < 6; s++) {
+            x.row(s, BYTES, 60);
+            for (int i = 57; i < 60; i++) x.put(s, i, 40 + s);
+            x.put(s, 0, 50 + s);
+        }
+        x.row(2, BYTES, 3);
+        x.put(2, 0, 30);
+        x.put(2, 1, 31);
+        x.put(2, 2, 32);
+        for (int i : new int[] {-1, -2, -3, -60, -61}) due("ahead of the row, stones(2, " + i + ", 8)", x.stones(2, i, 8), 0);
+        for (int i : new int[] {3, 4, 57, 60, 120}) due("behind the row, stones(2, " + i + ", 8)", x.stones(2, i, 8), 0);
+        due("the row alone, stones(2, 1, 8)", x.stones(2, 1, 8), 2);
+        due("of(0, 0)", x.of(0, 0), 31);
+        due("of(1, 0)", x.of(1, 0), 32);
+        due("the end of a row, stones(3, 59, 8)", x.stones(3, 59, 8), 1);
+        due("of(2, 0)", x.of(2, 0), 43);
+        due("one of them, stones(4, 57, 1)", x.stones(4, 57, 1), 1);
+        due("two of them, stones(4, 57, 2)", x.stones(4, 57, 2), 2);
+        due("count(0)", x.count(0), 6);
     }
 
     private static void whereItEnds() {

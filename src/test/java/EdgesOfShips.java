@@ -15,6 +15,7 @@ public final class EdgesOfShips extends Edges {
         worth();
         worthOfNone();
         fewest();
+        fromTheRow();
         lawfulBehindEach();
         sixAtMost();
         justThose();
@@ -25,12 +26,14 @@ public final class EdgesOfShips extends Edges {
         bookShelf();
         times();
         mixing();
+        eachTimeAnew();
+        whereItStands();
         mixedOf();
         Checks.end();
     }
 
     private static void ends() {
-        says("ENDS: the first way (bits: 1 at the right; of like ones the least) by which all stand LAWFUL at the end; NOT.");
+        says("A SHIP brings a set of STONES by numbers, the first one is set, each other one at the left or the right end: ENDS: the first way (bits: 1 at the right; of like ones the least) by which all stand LAWFUL at the end; NOT.");
         due("one alone", brought(1).ends(1), NOT);
         due("one alone in a ring", inRing(1).ends(1), 0);
         due("two alike", brought(1, 1).ends(3), 0);
@@ -116,6 +119,18 @@ public final class EdgesOfShips extends Edges {
         due("1 1 1", x.soldOn(-1), 1);
         due("none was sold", x.count(1), 3);
         due("none was a deed", x.of(0, 22), 3);
+        BothBeside some = brought(1, 1, 1, 1, 1, 1);
+        some.set(5, 0);
+        some.set(1, 0);
+        some.set(3, 1);
+        law(some, "1");
+        due("1 3 5 of six", some.soldOn(-1), 3);
+        int[] sales = {1, 3, 5};
+        for (int k = 0; k < 3; k++) due("1 3 5 of six, soldOn(" + k + ")", some.soldOn(k), sales[k]);
+        law(some, "n=0|s=5|s=3&n=2");
+        due("1 3 5, 5 last, soldOn(-1)", some.soldOn(-1), 3);
+        int[] kept = {1, 3, 5};
+        for (int k = 0; k < 3; k++) due("5 last, soldOn(" + k + ")", some.soldOn(k), kept[k]);
     }
 
     private static void theRowItself() {
@@ -141,6 +156,11 @@ public final class EdgesOfShips extends Edges {
         BothBeside one = standing(9);
         due("one, soldOn(0)", one.soldOn(0), 0);
         due("one, soldOn(1)", one.soldOn(1), NOT);
+        BothBeside other = brought(9, 9, 9);
+        other.set(1, 0);
+        due("of three the second alone, soldOn(-1)", other.soldOn(-1), 1);
+        due("of three the second alone, soldOn(0)", other.soldOn(0), 1);
+        due("of three the second alone, soldOn(1)", other.soldOn(1), NOT);
         BothBeside turned = brought(1, 1, 1);
         for (int s = 0; s < 3; s++) turned.set(s, 0);
         law(turned, "1");
@@ -181,7 +201,7 @@ public final class EdgesOfShips extends Edges {
     }
 
     private static void fewest() {
-        says("FEWEST turns of stretches (i below j) from THE ROW to a told row");
+        says("FEWEST turns of stretches (i below j) from THE ROW to a told row (a ROW of bytes of stones on a SHELF)");
         BothBeside x = under("1", 6);
         bytes(x, 0, 0, 1, 2, 3, 4, 5);
         due("it stands there, none", x.fewest(0), 0);
@@ -195,6 +215,10 @@ public final class EdgesOfShips extends Edges {
         due("the ends change", x.fewest(0), 2);
         bytes(x, 0, 2, 0, 4, 1, 5, 3);
         due("the farthest of six", x.fewest(0), 5);
+        due("the farthest of six again", x.fewest(0), 5);
+        bytes(x, 1, 1, 2, 0, 3, 4, 5);
+        due("another one", x.fewest(1), 2);
+        due("the farthest of six once more", x.fewest(0), 5);
         due("THE ROW stays", x.of(0, 10), 0);
         due("none was a deed", x.of(0, 22), 6);
         BothBeside none = new BothBeside();
@@ -203,6 +227,29 @@ public final class EdgesOfShips extends Edges {
         BothBeside one = standing(9);
         bytes(one, 0, 0);
         due("one to itself", one.fewest(0), 0);
+    }
+
+    private static void fromTheRow() {
+        says("from THE ROW to a told row");
+        BothBeside x = under("1", 3);
+        bytes(x, 0, 0, 1, 2);
+        bytes(x, 1, 1, 2, 0);
+        bytes(x, 2, 2, 1, 0);
+        due("0 1 2 to 0 1 2", x.fewest(0), 0);
+        due("0 1 2 to 1 2 0", x.fewest(1), 2);
+        due("0 1 2 to 2 1 0", x.fewest(2), 1);
+        x.turn(2);
+        due("2 1 0 to 0 1 2", x.fewest(0), 1);
+        due("2 1 0 to 1 2 0", x.fewest(1), 1);
+        due("2 1 0 to 2 1 0", x.fewest(2), 0);
+        x.turn(12);
+        due("2 0 1 to 0 1 2", x.fewest(0), 2);
+        due("2 0 1 to 1 2 0", x.fewest(1), 2);
+        due("2 0 1 to 2 1 0", x.fewest(2), 1);
+        x.take(0);
+        bytes(x, 3, 1, 0);
+        due("0 1 to 1 0", x.fewest(3), 1);
+        due("0 1 to 2 1 0", x.fewest(2), STATE);
     }
 
     private static void lawfulBehindEach() {
@@ -224,9 +271,16 @@ public final class EdgesOfShips extends Edges {
         due("one turn", longer.fewest(0), 1);
         bytes(longer, 0, 2, 0, 1);
         due("0 not last", longer.fewest(0), 2);
-        BothBeside cut = under("s=k|s=2-k&s+k=2&s-2*k=0-4+3*s", 3);
+        BothBeside cut = under("s=k", 3);
         bytes(cut, 0, 1, 2, 0);
         due("nothing else is LAWFUL", cut.fewest(0), NOT);
+        BothBeside apart = under("s=k|s=(k+1)%3", 3);
+        bytes(apart, 0, 1, 2, 0);
+        due("1 2 0 is LAWFUL, what stands ahead of it is not", apart.fewest(0), NOT);
+        apart.turn(2);
+        due("from 2 1 0, which is not", apart.fewest(0), 1);
+        apart.turn(1);
+        due("from 1 2 0 itself", apart.fewest(0), 0);
     }
 
     private static void sixAtMost() {
@@ -437,6 +491,36 @@ public final class EdgesOfShips extends Edges {
             for (int u = 0; u < 3; u++) if (seen[u].equals(seen[t])) often[t]++;
             due("of " + n + " by seed " + seed + " to " + seen[t], mixedTo(seen[t], n, seed, 3), often[t]);
         }
+    }
+
+    private static void eachTimeAnew() {
+        says("MIXED: n times (1 .. 50) by a SEED, in thought: from THE ROW each time anew");
+        BothBeside x = under("s=k", 2);
+        int before = 0;
+        int z = 99;
+        for (int n = 1; n <= 50; n++) {
+            z = z * 1103515245 + 12345;
+            if ((z >>> 8) % 2 == 1) before++;
+            due("by seed 99, mixed(99, " + n + ", -1)", x.mixed(99, n, -1), before);
+        }
+        due("THE ROW stays", x.of(0, 10), 0);
+        x.turn(1);
+        due("from 1 0, mixed(99, 50, -1)", x.mixed(99, 50, -1), 50 - before);
+        due("no deed", x.of(0, 22), 3);
+    }
+
+    private static void whereItStands() {
+        says("how often it is LAWFUL; how often a stone is LAWFUL where it stands.");
+        BothBeside x = under("s=0", 3);
+        due("0, each time", x.mixed(4, 20, 0), 20);
+        due("2, never", x.mixed(4, 20, 2), 0);
+        due("all of them, never", x.mixed(4, 20, -1), 0);
+        law(x, "s=1&k=2|s=2&k=2");
+        int last = x.mixed(4, 50, 1) + x.mixed(4, 50, 2);
+        law(x, "!(s=0&k=2)");
+        due("0 is last whenever neither 1 nor 2 is", x.mixed(4, 50, 0), last);
+        due("it is LAWFUL then", x.mixed(4, 50, -1), last);
+        due("1 is LAWFUL each time", x.mixed(4, 50, 1), 50);
     }
 
     private static void mixedOf() {

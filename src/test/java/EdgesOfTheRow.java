@@ -5,10 +5,13 @@ public final class EdgesOfTheRow extends Edges {
 
     public static void main(String[] args) {
         brokenFirst();
+        brokenOrNot();
         sold();
+        soldAsBits();
         theRestCloses();
         changes();
         turns();
+        waysWhat();
         orders();
         theFirstOrder();
         setsThereAre();
@@ -40,6 +43,26 @@ public final class EdgesOfTheRow extends Edges {
         due("stone 1 at place 1, stone 2 at place 0", x.broken(), 1);
         x.take(0);
         due("stone 1 at place 0", x.broken(), 0);
+    }
+
+    private static void brokenOrNot() {
+        says("`int broken()`: BROKEN. NOT.");
+        BothBeside x = under("k<3", 8);
+        due("the fourth of eight", x.broken(), 3);
+        for (int left = 7; left >= 4; left--) {
+            x.take(0);
+            due("the fourth of " + left, x.broken(), 3);
+        }
+        x.take(0);
+        due("none of three", x.broken(), NOT);
+    }
+
+    private static void soldAsBits() {
+        says("`int maySell()`: MAY BE SOLD, as bits.");
+        for (int s = 0; s < 8; s++) due("all but " + s, under("s=" + s + "|n=8", 8).maySell(), 0);
+        for (int s = 0; s < 8; s++) due(s + " alone is not LAWFUL", under("!(s=" + s + ")", 8).maySell(), 1 << s);
+        due("0 and 7", under("n=8|!(s=0&k=0)&!(s=7&k=6)", 8).maySell(), 0);
+        due("two at the ends", under("n=7&(s-k<1|s-k<2&k>5)", 8).maySell(), 192);
     }
 
     private static void sold() {
@@ -102,6 +125,18 @@ public final class EdgesOfTheRow extends Edges {
         due("none was a deed", x.of(0, 22), 8);
     }
 
+    private static void waysWhat() {
+        says("CHANGES (what 0), TURNS (1). BAD.");
+        BothBeside x = under("k=0?s=7;k=7?s=0;s=k", 8);
+        due("ways(0)", x.ways(0), 1);
+        due("ways(1)", x.ways(1), 0);
+        BothBeside none = new BothBeside();
+        for (int what : new int[] {-1, 2, 10, MIN, MAX}) {
+            due("ways(" + what + ")", x.ways(what), BAD);
+            due("none, ways(" + what + ")", none.ways(what), BAD);
+        }
+    }
+
     private static void orders() {
         says("ROWS of a set of STONES (bits): how many orders of all of them are LAWFUL");
         due("none", new BothBeside().rows(0, -1), 1);
@@ -137,7 +172,7 @@ public final class EdgesOfTheRow extends Edges {
     }
 
     private static void setsThereAre() {
-        says("BAD (a set of those there are, also none); NOT.");
+        says("ROWS of a set: how many (k -1), the stone at PLACE k of the first. BAD (a set of those there are, also none); NOT.");
         BothBeside bare = new BothBeside();
         due("no stones, rows(0, -1)", bare.rows(0, -1), 1);
         due("no stones, rows(1, -1)", bare.rows(1, -1), BAD);
@@ -167,6 +202,37 @@ public final class EdgesOfTheRow extends Edges {
         due("the first in a ring", x.rows(15, 0), 0);
         x.undo();
         due("9 5 5 5 again", x.rows(15, -1), 12);
+        BothBeside ends = brought(1, 2, 3);
+        law(ends, "k=0?l=3;1");
+        due("none at the left of the first", ends.rows(7, -1), 0);
+        ends.mend(0, 1, 1);
+        due("3 at the left of the first", ends.rows(7, -1), 2);
+        due("3 at the left of the first, the last", ends.rows(7, 2), 2);
+        law(ends, "k=2?r=2;1");
+        due("2 at the right of the last", ends.rows(7, -1), 2);
+        due("2 at the right of the last, the first", ends.rows(7, 0), 1);
+        law(ends, "k=1?l=1&r=3;1");
+        due("between 1 and 3", ends.rows(7, -1), 1);
+        due("two, 1 beside 2 alone", ends.rows(3, -1), 0);
+        law(ends, "n=2?l=r&l+w=3;n=1?l=w&r=w;0");
+        due("two in a ring", ends.rows(3, -1), 2);
+        due("one in a ring", ends.rows(4, -1), 1);
+        due("three in a ring", ends.rows(7, -1), 0);
+        eightByRing("w<l+r+1", 2592, 8128);
+        eightByRing("r>l|w>r", 10176, 5760);
+        eightByRing("k<7?r>w-40;r=0|r>60", 6144, 1458);
+    }
+
+    /** Asked without RING and with it in turn. */
+    private static void eightByRing(String law, int without, int with) {
+        BothBeside x = brought(10, 24, 31, 45, 52, 66, 73, 87);
+        law(x, law);
+        for (int i = 0; i < 3; i++) {
+            due(law + ", without RING", x.rows(255, -1), without);
+            due("mend(0, 1, 1)", x.mend(0, 1, 1), 0);
+            due(law + ", with RING", x.rows(255, -1), with);
+            due("mend(0, 1, 0)", x.mend(0, 1, 0), 1);
+        }
     }
 
     private static void ouncesPlain() {
@@ -182,7 +248,7 @@ public final class EdgesOfTheRow extends Edges {
     }
 
     private static void oneOunceAtLeast() {
-        says("(WEIGHTS 1 at least)");
+        says("the fewest ounces to be knocked off stones of THE ROW so that it is LAWFUL (WEIGHTS 1 at least)");
         says("NOT: it can't be.");
         due("one alone", standing(1).ounces(-1), NOT);
         due("one alone, the heaviest", standing(99).ounces(-1), NOT);
@@ -202,7 +268,8 @@ public final class EdgesOfTheRow extends Edges {
     }
 
     private static void ouncesOf() {
-        says("how many (place -1), the WEIGHT at a PLACE. BAD; NOT.");
+        says("how many; the WEIGHT at a PLACE then (there is only one way)");
+        says("OUNCES: how many (place -1), the WEIGHT at a PLACE. BAD; NOT.");
         BothBeside x = brought(1, 7, 99);
         x.set(2, 0);
         x.set(1, 1);
