@@ -5,6 +5,8 @@ public final class BothBeside {
     private static final int NOTHING_THERE = -11, OTHER_KIND = -12, NO_PLACE = -13, BELOW_ZERO = -14;
     private static final int MOST_STONES = 8, HEAVIEST = 99, MOST_MIXINGS = 50;
     private static final int NONE = -1;
+    /** Long.MIN_VALUE, written out: LANGUAGE.md lists functions of Long, no constants. */
+    private static final long NO_ELEMENT = -9223372036854775808L;
     /** The number of the stone by which a row is made up. */
     private static final int MADE_UP = 8;
 
@@ -235,7 +237,7 @@ public final class BothBeside {
     }
 
     public long element(int shelf, int i) {
-        return shelves.refusesElement(shelf, i) == 0 ? shelves.valueAt(shelf, i) : Long.MIN_VALUE;
+        return shelves.refusesElement(shelf, i) == 0 ? shelves.valueAt(shelf, i) : NO_ELEMENT;
     }
 
     public int shift(int shelf, int i, int other, int j, int n) {
@@ -331,21 +333,14 @@ public final class BothBeside {
         int read() {
             next = 0;
             drafted = 0;
-            boolean reads = readLines();
+            boolean reads = readLine();
+            for (int lines = 1; lines < LONGEST && reads && passed(";") != 0; lines++) reads = readLine();
+            boolean fits = reads && next >= length;
             length = 0;
-            if (!reads) return next;
+            if (!fits) return next;
             copy(draft, code, drafted);
             size = drafted;
             return NONE;
-        }
-
-        private boolean readLines() {
-            for (int lines = 0; lines < LONGEST; lines++) {
-                if (!readLine()) return false;
-                if (next >= length) return true;
-                if (passed(";") == 0) return false;
-            }
-            return false;
         }
 
         private boolean readLine() {
@@ -803,7 +798,7 @@ public final class BothBeside {
 
     /** The lawful orders of a set of stones that fit what is told of their places. */
     private static final class Orders {
-        private static final int GAP = -1;
+        private static final int GAP = -1, MOST_ORDERS = 40320;
 
         private final Quay quay;
         /** By places the stone that must stand there, or GAP. */
@@ -833,7 +828,7 @@ public final class BothBeside {
         int answer(int set, int place) {
             size = Integer.bitCount(set);
             found = 0;
-            enough = place == -1 ? Integer.MAX_VALUE : 1;
+            enough = place == -1 ? MOST_ORDERS : 1;
             fill(0, set);
             if (place == -1) return found;
             return found == 0 ? NOT : at(first, place);
@@ -1017,7 +1012,7 @@ public final class BothBeside {
             queued = 0;
             copy(quay.places, turned, n);
             reach(n, 0);
-            for (int head = 0; head < queued && at(away, goal) < 0; head++) {
+            for (int head = 0; head < ORDERS && head < queued && at(away, goal) < 0; head++) {
                 unpack(at(queue, head), n);
                 turnEachWay(n, at(away, rank(order, n)) + 1);
             }
